@@ -515,7 +515,8 @@ public final class SealedTokens {
         for (int k = 0; k < KEYS; k++) {
             if (keys[k].there && token.kidSuits(spare, keys[k]) && keys[k].maySeal(token.alg, token.way, true)) {
                 may = true;
-                if (whole && contentKeyComes(keys[k]) && contentOpens()) {
+                if (whole && contentKeyComes(keys[k])
+                    && content.unlock(token.way, token.contentKey, token.first, work, sealed, plain)) {
                     show(plain, 0, plain.many);
                     return k;
                 }
@@ -673,11 +674,6 @@ public final class SealedTokens {
             case ECDH_KW: return cipher.putUnwrapped(token.agreed, token.sealedKey, token.contentKey);
             default: return cipher.putUnwrapped(k.main, token.sealedKey, token.contentKey);
         }
-    }
-
-    private boolean contentOpens() {
-        return token.contentKey.many == WAY_KEY[token.way]
-            && content.unlock(token.way, token.contentKey, token.first, work, sealed, plain);
     }
 
     /** Bytes (0 .. 255) in a fixed room, and letters for them. */
@@ -1879,7 +1875,7 @@ public final class SealedTokens {
         /** False: it is not opened, and what stands in to means nothing. */
         boolean unlock(int way, Bytes key, Bytes first, Bytes also, Bytes from, Bytes to) {
             int many = from.many - WAY_MARK[way];
-            if (many < 0) {
+            if (many < 0 || key.many != WAY_KEY[way]) {
                 return false;
             }
             to.clear();
@@ -2093,10 +2089,6 @@ public final class SealedTokens {
             for (int i = 0; i < many && i < 4 * limbs; i++) {
                 to[i / 4] |= (long) from.get(start + many - 1 - i) << 8 * (i & 3);
             }
-        }
-
-        void takeOne(long[] to) {
-            System.arraycopy(one, 0, to, 0, limbs);
         }
 
         /** A number of any size, modulo this one: by pieces, as a piece need not be below the modulus to be led. */
@@ -2454,6 +2446,7 @@ public final class SealedTokens {
         private final Bytes orderBytes = ofDigits(ORDER);
         private final Bytes orderInverter = ofDigits(ORDER_LESS_2);
         private final long[] b = new long[LIMBS];
+        private final long[] unit = new long[LIMBS];
         private final long[][] sum = new long[3][LIMBS];
         private final long[][] t = new long[6][LIMBS];
         private final Bytes point = new Bytes(2 * BYTES);
@@ -2467,6 +2460,8 @@ public final class SealedTokens {
             field.take(ofDigits(B), 0, BYTES, b);
             field.take(ofDigits(BASE_X), 0, BYTES, base[0]);
             field.take(ofDigits(BASE_Y), 0, BYTES, base[1]);
+            unit[0] = 1;
+            field.lead(unit);
             field.lead(b);
             field.lead(base[0]);
             field.lead(base[1]);
@@ -2566,8 +2561,7 @@ public final class SealedTokens {
             if (field.isZero(z)) {
                 System.arraycopy(p[0], 0, x, 0, LIMBS);
                 System.arraycopy(p[1], 0, y, 0, LIMBS);
-                field.takeOne(z);
-                field.lead(z);
+                System.arraycopy(unit, 0, z, 0, LIMBS);
                 return true;
             }
             field.times(z, z, t[0]);
@@ -2912,7 +2906,8 @@ public final class SealedTokens {
 
         private boolean isSaidBefore(Text t, int crit, int i) {
             for (int j = crit + 1; j < i; j++) {
-                if (t.parent[j] == crit && t.poolSays(t.saidAt[j], t.saidMany[j], t.pool, t.saidAt[i], t.saidMany[i])) {
+                if (t.parent[j] == crit && t.saidMany[j] == t.saidMany[i]
+                    && Bytes.compare(t.pool, t.saidAt[j], t.pool, t.saidAt[i], t.saidMany[i]) == 0) {
                     return true;
                 }
             }
