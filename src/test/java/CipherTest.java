@@ -191,6 +191,10 @@ public final class CipherTest {
                 h.put(3, marked(way, key, first, also, bytes(size)));
                 Check.same("open", h.x.open(way, 0, 1, 2, 3), House.NONE);
             }
+            for (int turn = 0; turn < 1500; turn++) {
+                h.put(3, marked(way, key, first, also, bytes(17)));
+                Check.same("open of 17 bytes", h.x.open(way, 0, 1, 2, 3), House.NONE);
+            }
             for (int fill = 0; fill < 40; fill++) {
                 for (int wrong = -1; wrong < 16; wrong++) {
                     byte[] plain = new byte[32];

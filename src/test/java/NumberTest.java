@@ -219,6 +219,12 @@ public final class NumberTest {
         multiple(h, BigInteger.valueOf(3), new BigInteger[] {x, P.subtract(y)});
         h.mark().put(0, fixed(BigInteger.TWO, 32)).put(1, House.join(fixed(x.add(P), 32), fixed(y, 32)));
         Check.same("multiply", h.x.multiply(0, 1), House.BAD);
+        // likewise a y of 5
+        BigInteger[] low = {new BigInteger("d7325d7646cd60d80a92738ceb345f844cffaf35841022cab176f692de8de1d7", 16), BigInteger.valueOf(5)};
+        h.put(1, House.join(fixed(low[0], 32), fixed(P.add(low[1]), 32)));
+        Check.same("multiply", h.x.multiply(0, 1), House.BAD);
+        multiple(h, BigInteger.TWO, low);
+        h.mark().put(0, fixed(BigInteger.TWO, 32));
         h.put(1, House.join(fixed(P, 32), fixed(P, 32)));
         Check.same("multiply", h.x.multiply(0, 1), House.BAD);
         byte[] full = new byte[64];

@@ -235,6 +235,20 @@ public final class SignedTest {
         Check.same("s is 0", h.x.sign(0, 4, -1, 1, 3), House.RANDOM);
         h.put(3, NumberTest.fixed(K.add(BigInteger.ONE), 32));
         Check.same("another k", h.x.sign(0, 4, -1, 1, 3), input.length() + 87);
+        for (int s = 1; s < 4; s++) {
+            BigInteger small = BigInteger.valueOf(s).multiply(K).subtract(z).multiply(r.modInverse(NumberTest.N)).mod(NumberTest.N);
+            House fine = new House().put(0, Keys.ec(small, true, "")).put(1, payload).put(3, NumberTest.fixed(K, 32));
+            fine.x.key(0);
+            signed(fine, 4, -1, 3, input + "." + House.letters(NumberTest.point(new BigInteger[] {r, BigInteger.valueOf(s)})), payload);
+        }
+        // a signature whose point is k G, but whose r is a little more or less than its x
+        for (int off = -2; off <= 2; off++) {
+            BigInteger near = r.add(BigInteger.valueOf(off));
+            BigInteger s = z.add(near.multiply(D)).multiply(K.modInverse(NumberTest.N)).mod(NumberTest.N);
+            House close = new House().put(0, Keys.ec(D, false, "")).put(2, input + "." + House.letters(NumberTest.point(new BigInteger[] {near, s})));
+            close.x.key(0);
+            Check.same("verify, off by " + off, close.x.verify(2), off == 0 ? 0 : House.WRONG);
+        }
         // u G and v Q are opposite: no point
         h.put(2, input + "." + House.letters(NumberTest.point(new BigInteger[] {r, BigInteger.TEN})));
         Check.same("no point", h.x.verify(2), House.WRONG);

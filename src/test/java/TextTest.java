@@ -210,6 +210,16 @@ public final class TextTest {
         Check.that("text", h.outText().equals("-0.10E+2"));
         Check.same("name", h.x.name(2), 1);
         Check.same("bytes", h.x.value(1, 1), 12);
+        for (int point : new int[] {0, 1, 0x7e, 0x7f, 0x80, 0x81, 0x7fe, 0x7ff, 0x800, 0x801, 0xfff, 0x1000, 0xd7ff, 0xe000, 0xfffe, 0xffff, 0x10000, 0x10001, 0x103ff, 0x10400, 0x1ffff, 0xfffff, 0x100000, 0x10ffff}) {
+            StringBuilder text = new StringBuilder("\"");
+            for (char c : Character.toChars(point)) {
+                text.append(String.format("\\u%04x", (int) c));
+            }
+            House one = new House().put(0, text + "\"");
+            Check.same("json", one.x.json(0), 1);
+            one.x.text(0);
+            Check.same("sign " + point, one.out(), House.utf8(Character.toString(point)));
+        }
         Check.same("bytes", h.x.value(2, 1), 8);
         Check.same("members", h.x.value(0, 1), 2);
     }
