@@ -1,24 +1,16 @@
-import com.sun.source.tree.AssertTree;
 import com.sun.source.tree.BinaryTree;
 import com.sun.source.tree.BlockTree;
-import com.sun.source.tree.CatchTree;
 import com.sun.source.tree.ClassTree;
 import com.sun.source.tree.CompilationUnitTree;
 import com.sun.source.tree.CompoundAssignmentTree;
-import com.sun.source.tree.DoWhileLoopTree;
 import com.sun.source.tree.ForLoopTree;
 import com.sun.source.tree.IdentifierTree;
-import com.sun.source.tree.LambdaExpressionTree;
 import com.sun.source.tree.LiteralTree;
-import com.sun.source.tree.MemberReferenceTree;
 import com.sun.source.tree.MethodInvocationTree;
 import com.sun.source.tree.MethodTree;
 import com.sun.source.tree.NewArrayTree;
 import com.sun.source.tree.NewClassTree;
-import com.sun.source.tree.SynchronizedTree;
-import com.sun.source.tree.ThrowTree;
 import com.sun.source.tree.Tree;
-import com.sun.source.tree.TryTree;
 import com.sun.source.tree.VariableTree;
 import com.sun.source.util.JavacTask;
 import com.sun.source.util.TreePathScanner;
@@ -40,6 +32,9 @@ import javax.tools.ToolProvider;
 public final class LanguageTest {
     private static final Set<String> LIBRARY = Set.of("java.lang.String.length", "java.lang.String.charAt", "java.lang.Math.max", "java.lang.Math.min", "java.lang.System.arraycopy", "java.lang.Object.<init>");
     private static final Set<String> STATIC_TYPES = Set.of("int", "long", "boolean", "char", "java.lang.String", "int[]", "long[]", "char[]", "byte[]");
+
+    private static final Set<Tree.Kind> RULED_OUT = Set.of(Tree.Kind.THROW, Tree.Kind.TRY, Tree.Kind.CATCH, Tree.Kind.SYNCHRONIZED, Tree.Kind.ASSERT, Tree.Kind.LAMBDA_EXPRESSION,
+        Tree.Kind.MEMBER_REFERENCE, Tree.Kind.DO_WHILE_LOOP, Tree.Kind.YIELD, Tree.Kind.ANNOTATION, Tree.Kind.DOUBLE_LITERAL, Tree.Kind.FLOAT_LITERAL);
 
     private static Trees trees;
     private static CompilationUnitTree unit;
@@ -68,6 +63,14 @@ public final class LanguageTest {
     private static final class Looker extends TreePathScanner<Void, Void> {
         private int classes = 0;
         private Element method = null;
+
+        @Override
+        public Void scan(Tree tree, Void v) {
+            if (tree != null && RULED_OUT.contains(tree.getKind())) {
+                refuse(tree, "a tree of kind " + tree.getKind());
+            }
+            return super.scan(tree, v);
+        }
 
         private void refuse(Tree tree, String why) {
             Check.that(why + " in line " + line(trees.getSourcePositions().getStartPosition(unit, tree)), false);
@@ -203,54 +206,6 @@ public final class LanguageTest {
         public Void visitForLoop(ForLoopTree f, Void v) {
             Check.that("a loop without an end", f.getCondition() != null && !f.getUpdate().isEmpty());
             return super.visitForLoop(f, v);
-        }
-
-        @Override
-        public Void visitDoWhileLoop(DoWhileLoopTree d, Void v) {
-            refuse(d, "a do loop");
-            return null;
-        }
-
-        @Override
-        public Void visitThrow(ThrowTree t, Void v) {
-            refuse(t, "throw");
-            return null;
-        }
-
-        @Override
-        public Void visitTry(TryTree t, Void v) {
-            refuse(t, "try");
-            return null;
-        }
-
-        @Override
-        public Void visitCatch(CatchTree t, Void v) {
-            refuse(t, "catch");
-            return null;
-        }
-
-        @Override
-        public Void visitSynchronized(SynchronizedTree t, Void v) {
-            refuse(t, "synchronized");
-            return null;
-        }
-
-        @Override
-        public Void visitAssert(AssertTree t, Void v) {
-            refuse(t, "assert");
-            return null;
-        }
-
-        @Override
-        public Void visitLambdaExpression(LambdaExpressionTree t, Void v) {
-            refuse(t, "a lambda");
-            return null;
-        }
-
-        @Override
-        public Void visitMemberReference(MemberReferenceTree t, Void v) {
-            refuse(t, "a method reference");
-            return null;
         }
 
         @Override

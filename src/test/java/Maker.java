@@ -122,6 +122,15 @@ final class Maker {
         return c.doFinal(message);
     }
 
+    /** MGF1 of RFC 8017. */
+    static byte[] mask(byte[] seed, int many) throws Exception {
+        byte[] all = {};
+        for (int i = 0; all.length < many; i++) {
+            all = House.join(all, hash(House.join(seed, DigestTest.word(i))));
+        }
+        return Arrays.copyOf(all, many);
+    }
+
     /** A token of five parts. */
     static String token(String head, byte[] sealedKey, byte[] first, int way, byte[] key, byte[] payload) throws Exception {
         byte[] sealed = CipherTest.seal(way, key, first, House.bytes(House.letters(House.utf8(head))), payload);

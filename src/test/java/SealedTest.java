@@ -407,14 +407,6 @@ public final class SealedTest {
         }
     }
 
-    private static byte[] mask(byte[] seed, int many) throws Exception {
-        byte[] all = {};
-        for (int i = 0; all.length < many; i++) {
-            all = House.join(all, Maker.hash(House.join(seed, DigestTest.word(i))));
-        }
-        return Arrays.copyOf(all, many);
-    }
-
     /** Frames of OAEP that are wrong in one way each. */
     private static void oaepEdges() throws Exception {
         for (int bits : new int[] {1024, 1017, 785}) {
@@ -440,11 +432,11 @@ public final class SealedTest {
                 } else if (fault == 9) {
                     db[32] = 1;
                 }
-                byte[] mask = mask(seed, db.length);
+                byte[] mask = Maker.mask(seed, db.length);
                 for (int i = 0; i < db.length; i++) {
                     db[i] ^= mask[i];
                 }
-                mask = mask(db, 32);
+                mask = Maker.mask(db, 32);
                 for (int i = 0; i < 32; i++) {
                     seed[i] ^= mask[i];
                 }

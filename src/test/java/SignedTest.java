@@ -113,14 +113,6 @@ public final class SignedTest {
         }
     }
 
-    private static byte[] mask(byte[] seed, int many) throws Exception {
-        byte[] all = {};
-        for (int i = 0; all.length < many; i++) {
-            all = House.join(all, Maker.hash(House.join(seed, DigestTest.word(i))));
-        }
-        return Arrays.copyOf(all, many);
-    }
-
     /** Frames of PSS that are wrong in one way each, signed as they stand. */
     private static void pssEdges() throws Exception {
         byte[] payload = {1, 2, 3};
@@ -143,7 +135,7 @@ public final class SignedTest {
                 } else if (fault == 4) {
                     hash[0] ^= 1;
                 }
-                byte[] mask = mask(hash, db.length);
+                byte[] mask = Maker.mask(hash, db.length);
                 for (int i = 0; i < db.length; i++) {
                     db[i] ^= mask[i];
                 }
