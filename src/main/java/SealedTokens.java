@@ -2,7 +2,7 @@
  * A house for tokens that are signed or sealed, with all that they are made of: texts of values,
  * letters for bytes, digests, codes, a block cipher, great numbers and points of a curve.
  *
- * No call makes an object: all rows and scratch space are made once, in the constructors.
+ * Rows and scratch space are made once, in the constructors; calls make nothing, but for the room of a long kid.
  */
 public final class SealedTokens {
     public static final int NONE = -1, BAD = -2, LARGE = -3, RANDOM = -4, POINT = -5, FORM = -20, PART = -21, TEXT = -22, HEAD = -23, NAMES = -24, ALG = -25, KEY = -26, WRONG = -27;
@@ -2677,7 +2677,8 @@ public final class SealedTokens {
         final Bytes main = new Bytes(Modulus.MOST_BYTES);
         final Bytes exponent = new Bytes(Modulus.MOST_BYTES);
         final Bytes secret = new Bytes(Modulus.MOST_BYTES);
-        final Bytes kid = new Bytes(MOST);
+        /** Few keys have a long kid: its room is doubled when one comes, and kept. */
+        Bytes kid = new Bytes(64);
 
         /** It becomes what the text tells, but whether its numbers belong together is not asked; else the reason (2 .. 6). */
         int reasonAgainst(Text t) {
@@ -2754,7 +2755,18 @@ public final class SealedTokens {
             kidThere = itsKid != NONE;
             kid.clear();
             if (kidThere) {
+                makeKidRoom(t.saidMany[itsKid]);
                 kid.putPart(t.pool, t.saidAt[itsKid], t.saidMany[itsKid]);
+            }
+        }
+
+        private void makeKidRoom(int many) {
+            int room = Math.max(kid.at.length, 64);
+            while (room < many && room < MOST) {
+                room *= 2;
+            }
+            if (room > kid.at.length) {
+                kid = new Bytes(room);
             }
         }
 
@@ -2811,13 +2823,16 @@ public final class SealedTokens {
 
     /** What is known of the token that is being made or taken apart. */
     private static final class Token {
+        /** 8192 letters stand for a head of 6144 bytes, and letters in that for 4608. */
+        private static final int PARTY_ROOM = 4608;
+
         final Bytes head = new Bytes(MOST);
         int alg;
         int way;
         /** The payload stands in the token as it is. */
         boolean asItIs;
-        final Bytes u = new Bytes(MOST);
-        final Bytes v = new Bytes(MOST);
+        final Bytes u = new Bytes(PARTY_ROOM);
+        final Bytes v = new Bytes(PARTY_ROOM);
         /** The fresh point, x and y. */
         final Bytes point = new Bytes(2 * Curve.BYTES);
         final Bytes fresh = new Bytes(Curve.BYTES);
@@ -2978,7 +2993,7 @@ public final class SealedTokens {
 
         private static boolean takeParty(Text t, int i, Bytes to) {
             to.clear();
-            return i == NONE || (t.areLetters(i) && t.putLettered(i, 0, MOST, to));
+            return i == NONE || (t.areLetters(i) && t.putLettered(i, 0, PARTY_ROOM, to));
         }
 
         void makeSignedHead(int itsAlg, Key k) {

@@ -31,7 +31,26 @@ public final class RoomTest {
         }
         System.out.println("all calls made " + least + " bytes");
         Check.that("calls made " + least + " bytes", least <= 0);
+        longKids(bean);
         Check.end();
+    }
+
+    /** Ever longer kids: their room is kept, so all keys of a run together make little. */
+    private static void longKids(ThreadMXBean bean) {
+        House h = new House();
+        String front = Keys.oct(new byte[1], ",\"kid\":\"\"");
+        long made = 0;
+        for (int turn = 0; turn < 512; turn++) {
+            int many = Math.min(16 * turn, 8192 - front.length());
+            h.put(0, Keys.oct(new byte[1], ",\"kid\":\"" + "k".repeat(many) + "\""));
+            long before = bean.getCurrentThreadAllocatedBytes();
+            int key = h.x.key(0);
+            made += bean.getCurrentThreadAllocatedBytes() - before;
+            Check.same("kid", h.x.told(key, 4), many);
+            h.x.drop(turn % 3 == 0 ? key : turn % 16);
+        }
+        System.out.println("512 long kids made " + made + " bytes");
+        Check.that("long kids made " + made + " bytes", made < 2_000_000);
     }
 
     private static House filled() {
@@ -124,7 +143,7 @@ public final class RoomTest {
         }
         System.out.println("an object has " + seen.size() + " objects and arrays, " + elements + " fields and elements");
         Check.that("objects", seen.size() < 1000);
-        Check.that("elements", elements < 400_000);
+        Check.that("elements", elements < 200_000);
     }
 
     private static void reach(Object o, Set<Object> seen, Deque<Object> open) {
