@@ -748,7 +748,7 @@ public final class SealedTokens {
             int fits = Math.min(count, at.length - many);
             System.arraycopy(from.at, start, at, many, fits);
             many += fits;
-            lost |= fits < count;
+            lost = lost || fits < count;
         }
 
         void putAll(Bytes from) {

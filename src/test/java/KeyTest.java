@@ -14,6 +14,7 @@ public final class KeyTest {
         numbers();
         toldOf();
         prints();
+        oneAfterAnother();
         Check.end();
     }
 
@@ -218,6 +219,34 @@ public final class KeyTest {
         int[] due = {0, 5, 0, 0, -1, 0};
         for (int what = 0; what < 6; what++) {
             Check.same("nothing is left of what was dropped", h.x.told(0, what), due[what]);
+        }
+    }
+
+    /** All in one object, whose room for keys is used again and again. */
+    private static void oneAfterAnother() {
+        Keys a = Keys.rsa(1024, 65537, 11);
+        Keys b = Keys.rsa(512, 3, 12);
+        String[] texts = {a.text(true, ",\"kid\":\"long enough\""), b.text(true, ",\"use\":\"enc\""), b.text(false, ""), Keys.ec(BigInteger.TEN, true, ",\"alg\":\"x\""), Keys.ec(BigInteger.TWO, false, ",\"kid\":\"\""),
+            Keys.oct(new byte[128], ",\"use\":\"x\""), Keys.oct(new byte[2], ""), "{", "{\"kty\":\"oct\",\"k\":\"\"}", Keys.rsaText(Keys.letters(a.n), "AQAB", Keys.letters(b.d), ""), Keys.ecText(new byte[32], new byte[32], new byte[32], "")};
+        House h = new House();
+        java.util.Random random = new java.util.Random(1);
+        for (int turn = 0; turn < 400; turn++) {
+            String text = texts[random.nextInt(texts.length)];
+            House alone = new House().put(0, text);
+            int due = alone.x.key(0);
+            int key = h.put(0, text).x.key(0);
+            Check.that("key answered " + key, due == 0 ? key >= 0 : key == due);
+            if (due == 0) {
+                for (int what = 0; what < 6; what++) {
+                    Check.same("told", h.x.told(key, what), alone.x.told(0, what));
+                }
+                h.x.print(key);
+                alone.x.print(0);
+                Check.same("print", h.out(), alone.out());
+            }
+            for (int k = random.nextInt(3) == 0 ? 0 : 12; k < 16; k++) {
+                h.x.drop(k);
+            }
         }
     }
 

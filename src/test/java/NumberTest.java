@@ -224,6 +224,7 @@ public final class NumberTest {
         h.put(1, House.join(fixed(low[0], 32), fixed(P.add(low[1]), 32)));
         Check.same("multiply", h.x.multiply(0, 1), House.BAD);
         multiple(h, BigInteger.TWO, low);
+        multiple(h, BigInteger.TWO, new BigInteger[] {low[0], P.subtract(low[1])});
         h.mark().put(0, fixed(BigInteger.TWO, 32));
         h.put(1, House.join(fixed(P, 32), fixed(P, 32)));
         Check.same("multiply", h.x.multiply(0, 1), House.BAD);

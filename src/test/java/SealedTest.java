@@ -264,6 +264,19 @@ public final class SealedTest {
             }
             Check.that("both sides of the brim", over && under);
         }
+        for (int alg = 0; alg < 6; alg++) {
+            byte[] random = random(alg, 2);
+            House h = new House().put(0, text(alg, 2, "")).put(2, random).put(3, U);
+            h.x.key(0);
+            int sealedKey = alg == 0 || alg == 4 ? 0 : alg == 3 ? 128 : 24;
+            int rest = 4 + letters(head(alg, 2, "", U, null).length()) + letters(sealedKey) + letters(12) + letters(16);
+            int most = (8192 - rest) * 3 / 4;
+            h.put(1, new byte[most]);
+            Check.same("encrypt by " + alg, h.x.encrypt(0, alg, 2, 1, 2, 3, -1), rest + letters(most));
+            h.mark().put(1, new byte[most + 1]);
+            Check.same("encrypt by " + alg, h.x.encrypt(0, alg, 2, 1, 2, 3, -1), House.LARGE);
+            h.unmarked("encrypt");
+        }
         House h = new House().put(0, Keys.ec(D, true, "")).put(1, "").put(2, Keys.bytes(150, 1)).put(3, new byte[8192]).mark();
         h.x.key(0);
         Check.same("a large u", h.x.encrypt(0, 4, 0, 1, 2, 3, -1), House.LARGE);
