@@ -475,8 +475,13 @@ public final class SignedTest {
         h.put(6, new byte[32]);
         Check.same("k is 0", x.sign(2, 4, -1, 1, 6), House.RANDOM);
         Check.same("a salt may be 0s", x.sign(1, 3, -1, 1, 6), House.LARGE);
-        h.put(6, NumberTest.fixed(NumberTest.N, 32));
-        Check.same("k is the order", x.sign(2, 4, -1, 1, 6), House.RANDOM);
+        for (int more = 0; more < 3; more++) {
+            h.put(6, NumberTest.fixed(NumberTest.N.add(BigInteger.valueOf(more)), 32));
+            Check.same("k is the order or more", x.sign(2, 4, -1, 1, 6), House.RANDOM);
+        }
+        byte[] full = new byte[40];
+        Arrays.fill(full, (byte) 255);
+        Check.same("k is the order or more", h.put(6, full).x.sign(2, 4, -1, 1, 6), House.RANDOM);
         h.put(6, NumberTest.fixed(K, 32));
         Check.same("LARGE", x.sign(2, 4, -1, 1, 6), House.LARGE);
         h.unmarked("sign");
