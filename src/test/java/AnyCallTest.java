@@ -1,6 +1,3 @@
-import java.lang.reflect.Array;
-import java.lang.reflect.Field;
-import java.lang.reflect.Modifier;
 import java.math.BigInteger;
 import java.util.Arrays;
 import java.util.Random;
@@ -14,14 +11,14 @@ public final class AnyCallTest {
     private static int[] args = new int[7];
     private static int many;
 
-    public static void main(String[] ignored) throws Exception {
+    public static void main(String[] ignored) {
         for (int run = 0; run < 120; run++) {
             run(run);
         }
         Check.end();
     }
 
-    private static void run(int run) throws Exception {
+    private static void run(int run) {
         House h = new House();
         for (int r = 0; r < 8; r++) {
             h.put(r, content());
@@ -30,7 +27,7 @@ public final class AnyCallTest {
             h.put(0, KEYS[RANDOM.nextInt(KEYS.length)]);
             h.x.key(0);
         }
-        String[] before = state(h.x);
+        String[] before = State.of(h.x);
         for (int step = 0; step < 400; step++) {
             int kind = RANDOM.nextInt(33);
             int answer = 0;
@@ -39,7 +36,7 @@ public final class AnyCallTest {
             } catch (RuntimeException | Error e) {
                 Check.that("call " + kind + " of " + Arrays.toString(args) + " threw " + e, false);
             }
-            String[] after = state(h.x);
+            String[] after = State.of(h.x);
             for (int part = 0; part < before.length; part++) {
                 if (!before[part].equals(after[part])) {
                     Check.that("run " + run + ": call " + kind + " of " + Arrays.toString(args) + " answered " + answer + " and changed part " + part, answer >= 0 && mayChange(kind, part));
@@ -49,7 +46,7 @@ public final class AnyCallTest {
             before = after;
             if (RANDOM.nextInt(4) == 0) {
                 h.put(RANDOM.nextInt(8), content());
-                before = state(h.x);
+                before = State.of(h.x);
             }
         }
     }
@@ -120,7 +117,7 @@ public final class AnyCallTest {
         }
     }
 
-    /** The tape, OUT, the text at hand, the keys, the rows. */
+    /** The parts are those of State. */
     private static boolean mayChange(int kind, int part) {
         switch (kind) {
             case 0: case 1: return part == 0;
@@ -131,41 +128,5 @@ public final class AnyCallTest {
             case 5: case 6: case 8: case 11: case 27: return false;
             default: return part == 1;
         }
-    }
-
-    private static Object get(Object of, String field) throws Exception {
-        Field f = of.getClass().getDeclaredField(field);
-        f.setAccessible(true);
-        return f.get(of);
-    }
-
-    private static String[] state(SealedTokens x) throws Exception {
-        StringBuilder keys = new StringBuilder();
-        Object all = get(x, "keys");
-        for (int k = 0; k < 16; k++) {
-            Object key = Array.get(all, k);
-            keys.append((Boolean) get(key, "there") ? show(key) : "-").append(';');
-        }
-        StringBuilder rows = new StringBuilder();
-        for (int r = 0; r < 8; r++) {
-            rows.append(show(Array.get(get(x, "rows"), r))).append(';');
-        }
-        return new String[] {show(get(x, "tape")), show(get(x, "shown")), show(get(x, "hand")), keys.toString(), rows.toString()};
-    }
-
-    private static String show(Object o) throws Exception {
-        if (o.getClass().getSimpleName().equals("Bytes")) {
-            int many = (Integer) get(o, "many");
-            return many + ":" + Arrays.hashCode(Arrays.copyOf((int[]) get(o, "at"), many));
-        }
-        StringBuilder s = new StringBuilder();
-        for (Field f : o.getClass().getDeclaredFields()) {
-            if (!Modifier.isStatic(f.getModifiers())) {
-                f.setAccessible(true);
-                Object v = f.get(o);
-                s.append(f.getName()).append('=').append(v instanceof int[] a ? String.valueOf(Arrays.hashCode(a)) : f.getType().isPrimitive() ? String.valueOf(v) : show(v)).append(',');
-            }
-        }
-        return s.toString();
     }
 }

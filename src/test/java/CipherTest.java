@@ -123,7 +123,7 @@ public final class CipherTest {
         return marked(way, key, first, also, c.doFinal(plain));
     }
 
-    private static byte[] marked(int way, byte[] key, byte[] first, byte[] also, byte[] sealed) throws Exception {
+    static byte[] marked(int way, byte[] key, byte[] first, byte[] also, byte[] sealed) throws Exception {
         Mac mac = Mac.getInstance(way == 0 ? "HmacSHA256" : "HmacSHA512");
         mac.init(new SecretKeySpec(Arrays.copyOf(key, key.length / 2), "x"));
         byte[] mark = mac.doFinal(House.join(also, first, sealed, DigestTest.word(0), DigestTest.word(8 * also.length)));

@@ -9,6 +9,17 @@ final class House {
 
     final SealedTokens x = new SealedTokens();
 
+    /** A text is at hand, OUT, the tape, two rows and a key are there: what a refusal changed would be seen. */
+    static House lived() {
+        House h = new House().put(0, "{\"a\":[7,\"seven\"]}").put(7, Keys.oct(bytes("never used"), ",\"kid\":\"nobody's\",\"use\":\"none\""));
+        h.x.json(0);
+        h.x.key(7);
+        h.mark();
+        h.x.feed(0x01020304, -1, 3, 4, 5);
+        return h;
+    }
+
+    /** By the tape, which is empty then. */
     House put(int r, byte[] bytes) {
         x.end(0);
         for (int i = 0; i < bytes.length && i < 8180; i += 20) {

@@ -5,9 +5,11 @@ import java.util.List;
 
 /** Promises 33 and 34. */
 public final class SealedTest {
-    private static final BigInteger D = new BigInteger("7ec2e7a1b2c3d4e5f60718293a4b5c6d7e8f90a1b2c3d4e5f60718293a4b5c6d", 16);
-    private static final BigInteger FRESH = new BigInteger("0034567890abcdef1234567890abcdef1234567890abcdef1234567890abcdef", 16);
-    private static final Keys RSA = Keys.rsa(1024, 65537, 33);
+    static final BigInteger D = new BigInteger("7ec2e7a1b2c3d4e5f60718293a4b5c6d7e8f90a1b2c3d4e5f60718293a4b5c6d", 16);
+    static final BigInteger FRESH = new BigInteger("0034567890abcdef1234567890abcdef1234567890abcdef1234567890abcdef", 16);
+    static final BigInteger[] FRESH_POINT = NumberTest.times(FRESH, NumberTest.G);
+    private static final BigInteger[] POINT = NumberTest.times(D, NumberTest.G);
+    static final Keys RSA = Keys.rsa(1024, 65537, 33);
     private static final byte[] PAYLOAD = House.bytes("a payload, not so short");
     private static final byte[] U = House.bytes("Alice");
     private static final byte[] V = House.bytes("Bob\0");
@@ -30,7 +32,7 @@ public final class SealedTest {
     }
 
     /** A key's text for alg and way, of right size. */
-    private static String text(int alg, int way, String more) {
+    static String text(int alg, int way, String more) {
         switch (alg) {
             case 0: return Keys.oct(Keys.bytes(Maker.KEY[way], 50 + way), more);
             case 1: return Keys.oct(Keys.bytes(16, 51), more);
@@ -40,16 +42,16 @@ public final class SealedTest {
         }
     }
 
-    private static byte[] random(int alg, int way) {
+    static byte[] random(int alg, int way) {
         byte[] fresh = alg >= 4 ? NumberTest.fixed(FRESH, 32) : new byte[0];
         int more = (alg == 0 || alg == 4 ? 0 : Maker.KEY[way]) + (alg == 3 ? 32 : 0) + Maker.FIRST[way];
         return House.join(fresh, Keys.bytes(more, 7));
     }
 
-    private static String head(int alg, int way, String kid, byte[] u, byte[] v) {
+    static String head(int alg, int way, String kid, byte[] u, byte[] v) {
         String head = "{\"alg\":\"" + Maker.SEALED[alg] + "\",\"enc\":\"" + Maker.WAYS[way] + "\"" + kid;
         if (alg >= 4) {
-            BigInteger[] p = NumberTest.times(FRESH, NumberTest.G);
+            BigInteger[] p = FRESH_POINT;
             head += ",\"epk\":{\"kty\":\"EC\",\"crv\":\"P-256\",\"x\":\"" + House.letters(NumberTest.fixed(p[0], 32)) + "\",\"y\":\"" + House.letters(NumberTest.fixed(p[1], 32)) + "\"}";
             head += u == null ? "" : ",\"apu\":\"" + House.letters(u) + "\"";
             head += v == null ? "" : ",\"apv\":\"" + House.letters(v) + "\"";
@@ -58,7 +60,7 @@ public final class SealedTest {
     }
 
     /** The token that is due, with any head. */
-    private static String token(int alg, int way, String head, byte[] u, byte[] v, byte[] payload) throws Exception {
+    static String token(int alg, int way, String head, byte[] u, byte[] v, byte[] payload) throws Exception {
         byte[] random = random(alg, way);
         int at = alg >= 4 ? 32 : 0;
         byte[] key = Arrays.copyOfRange(random, at, at + Maker.KEY[way]);
@@ -66,7 +68,7 @@ public final class SealedTest {
         byte[] sealedKey = {};
         byte[] partyU = u == null ? new byte[0] : u;
         byte[] partyV = v == null ? new byte[0] : v;
-        byte[] z = Maker.shared(FRESH, NumberTest.times(D, NumberTest.G));
+        byte[] z = Maker.shared(FRESH, POINT);
         switch (alg) {
             case 0: key = Keys.bytes(Maker.KEY[way], 50 + way); break;
             case 1: sealedKey = Maker.wrap(Keys.bytes(16, 51), key); break;
@@ -98,7 +100,7 @@ public final class SealedTest {
         Check.same("payload", h.out(), payload);
     }
 
-    private static boolean fits(int alg, int way) {
+    static boolean fits(int alg, int way) {
         // 66 and 64 bytes are more than n may have
         return alg != 3 || way != 1;
     }
@@ -330,7 +332,7 @@ public final class SealedTest {
     private static void headsThatCome() throws Exception {
         String enc = "\"enc\":\"A128GCM\"";
         String plain = "\"alg\":\"dir\"," + enc;
-        BigInteger[] p = NumberTest.times(FRESH, NumberTest.G);
+        BigInteger[] p = FRESH_POINT;
         String x = House.letters(NumberTest.fixed(p[0], 32));
         String y = House.letters(NumberTest.fixed(p[1], 32));
         String es = "\"alg\":\"ECDH-ES\"," + enc;
