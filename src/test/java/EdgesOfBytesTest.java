@@ -7,6 +7,7 @@ public final class EdgesOfBytesTest {
     public static void main(String[] args) {
         newObject();
         newObjectsShareNothing();
+        callsUpTo512();
         feed();
         feedToTheBrim();
         end();
@@ -50,6 +51,17 @@ public final class EdgesOfBytesTest {
         newObject();
         Check.same("the used one's tape", used.x.end(20), 20);
         Check.same("the used one's key", used.x.told(0, 0), 0);
+    }
+
+    private static void callsUpTo512() {
+        Check.promise(1, "an object is used for at most 512 calls");
+        SealedTokens x = new SealedTokens();
+        for (int call = 1; call <= 509; call++) {
+            Check.same("call " + call, call % 3 == 0 ? x.row(call % 8) : call % 3 == 1 ? x.feed(call, 2, 3, 4, 5) : x.end(4), call % 3 == 1 ? 20 : 4);
+        }
+        Check.same("call 510", x.row(2), 4);
+        Check.same("call 511", x.hash(256, 2), 32);
+        Check.same("call 512", x.keep(7), 32);
     }
 
     private static void feed() {
@@ -142,6 +154,15 @@ public final class EdgesOfBytesTest {
             Check.refused(h, "row " + r, () -> h.x.row(r), House.BAD);
             Check.same("the tape is still there", h.x.end(20), 20);
         }
+        Check.promise(4, "TAPE is used up by row() alone");
+        House lived = House.lived();
+        lived.x.keep(1);
+        lived.x.decode(1);
+        lived.x.write(0);
+        lived.x.key(2);
+        lived.x.print(0);
+        lived.x.drop(0);
+        Check.same("the tape is still there", lived.x.end(20), 20);
         Check.promise(4, "a full TAPE becomes a full row");
         SealedTokens full = withTape(8192);
         Check.same("row", full.row(0), 8192);

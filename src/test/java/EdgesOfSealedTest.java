@@ -577,10 +577,12 @@ public final class EdgesOfSealedTest {
         House h = House.lived();
         h.x.drop(0);
         for (int k = 0; k < 16; k++) {
-            h.put(1, k == 3 || k == 15 ? text(0, 2, "") : k == 1 ? text(0, 2, ",\"use\":\"sig\"") : Keys.oct(new byte[16], ""));
+            h.put(1, k == 0 || k == 3 || k == 15 ? text(0, 2, "") : k == 1 ? text(0, 2, ",\"use\":\"sig\"") : Keys.oct(new byte[16], ""));
             Check.same("key", h.x.key(1), k);
         }
         String token = SealedTest.token(0, 2, head(0, 2), null, null, PAYLOAD);
+        decrypt(h, token, 0);
+        h.x.drop(0);
         decrypt(h, token, 3);
         Check.same("the payload is OUT", h.out(), PAYLOAD);
         h.x.drop(3);

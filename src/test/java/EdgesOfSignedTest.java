@@ -515,10 +515,12 @@ public final class EdgesOfSignedTest {
         h.x.drop(0);
         String other = Keys.oct(new byte[64], "");
         for (int k = 0; k < 16; k++) {
-            h.put(1, k == 3 || k == 15 ? TEXTS[0] : k == 1 ? Keys.oct(OCT, ",\"use\":\"enc\"") : other);
+            h.put(1, k == 0 || k == 3 || k == 15 ? TEXTS[0] : k == 1 ? Keys.oct(OCT, ",\"use\":\"enc\"") : other);
             Check.same("key", h.x.key(1), k);
         }
         String token = token("{\"alg\":\"HS256\"}", "p");
+        verify(h, token, 0);
+        h.x.drop(0);
         verify(h, token, 3);
         h.x.drop(3);
         verify(h, token, 15);
@@ -528,11 +530,11 @@ public final class EdgesOfSignedTest {
         verify(h, token, House.WRONG);
         h.put(1, TEXTS[0]);
         h.x.key(1);
-        verify(h, token, 3);
-        Check.promise(32, "one that has the head's kid comes before one that has not");
+        verify(h, token, 0);
+        Check.promise(32, "one that has not the head's kid does not count");
         h.put(1, Keys.oct(OCT, ",\"kid\":\"a\""));
-        Check.same("key", h.x.key(1), 15);
-        verify(h, token("{\"alg\":\"HS256\",\"kid\":\"a\"}", "p"), 15);
+        Check.same("key", h.x.key(1), 3);
+        verify(h, token("{\"alg\":\"HS256\",\"kid\":\"a\"}", "p"), 3);
     }
 
     private static void wrongSignatures() throws Exception {
