@@ -14,6 +14,7 @@ public final class EdgesOfCiphersTest {
         block();
         wrap();
         unwrap();
+        unwrapOtherStarts();
         seal();
         sealLarge();
         open();
@@ -171,6 +172,43 @@ public final class EdgesOfCiphersTest {
         }
     }
 
+    /** RFC 3394 with any start in place of a6a6a6a6a6a6a6a6. */
+    private static byte[] wrapped(byte[] key, byte[] start, byte[] plain) throws Exception {
+        Cipher c = Cipher.getInstance("AES/ECB/NoPadding");
+        c.init(Cipher.ENCRYPT_MODE, CipherTest.aes(key));
+        byte[] a = start.clone();
+        byte[] all = plain.clone();
+        int parts = plain.length / 8;
+        for (int turn = 0; turn < 6 * parts; turn++) {
+            int at = turn % parts * 8;
+            byte[] b = c.doFinal(House.join(a, Arrays.copyOfRange(all, at, at + 8)));
+            a = Arrays.copyOf(b, 8);
+            a[7] ^= turn + 1;
+            System.arraycopy(b, 8, all, at, 8);
+        }
+        return House.join(a, all);
+    }
+
+    private static void unwrapOtherStarts() throws Exception {
+        byte[] key = Keys.bytes(16, 22);
+        for (int many = 16; many <= 64; many += 8) {
+            byte[] plain = Keys.bytes(many, many);
+            byte[] start = new byte[8];
+            Arrays.fill(start, (byte) 0xa6);
+            Check.promise(21, "it fits the key by all 8 bytes that RFC 3394 begins with");
+            House h = House.lived().put(1, key).put(2, wrapped(key, start, plain));
+            Check.same("unwrap", h.x.unwrap(1, 2), many);
+            h.mark();
+            Check.promise(21, "NONE: one of these is another");
+            for (int i = 0; i < 8; i++) {
+                byte[] other = start.clone();
+                other[i] ^= 1;
+                h.put(2, wrapped(key, other, plain));
+                Check.refused(h, "byte " + i + " of " + many, () -> h.x.unwrap(1, 2), House.NONE);
+            }
+        }
+    }
+
     /** Key, beginning and what else the mark is of in rows 1, 2, 3. */
     private static House ready(int way, byte[] also) {
         return House.lived().put(1, Keys.bytes(Maker.KEY[way], way)).put(2, Keys.bytes(Maker.FIRST[way], way + 9)).put(3, also);
@@ -239,6 +277,7 @@ public final class EdgesOfCiphersTest {
             int sealedBy = way;
             House h = ready(way, new byte[3]).put(4, plain);
             Check.same("seal of " + most[way] + " by " + way, h.x.seal(way, 1, 2, 3, 4), 8192);
+            Check.same("OUT", h.out(), sealed(way, new byte[3], plain));
             h.x.keep(5);
             Check.same("open", h.x.open(way, 1, 2, 3, 5), most[way]);
             Check.same("OUT", h.out(), plain);

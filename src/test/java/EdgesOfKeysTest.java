@@ -20,6 +20,7 @@ public final class EdgesOfKeysTest {
         exponents();
         secrets();
         secretsNextToTheModulus();
+        powersNextTo2();
         curves();
         curveSecrets();
         missing();
@@ -204,6 +205,18 @@ public final class EdgesOfKeysTest {
 
     private static boolean allAreUnits(BigInteger[] numbers, BigInteger modulus) {
         return Arrays.stream(numbers).allMatch(x -> x.gcd(modulus).equals(ONE));
+    }
+
+    /** 2 to the power 3 171 is 2 modulo 2 to the power 512, less 1; with these moduli it is more by one bit of another byte. */
+    private static void powersNextTo2() {
+        Check.promise(27, "2 to the power e d is 2 modulo n, in all bytes");
+        BigInteger all = ONE.shiftLeft(512).subtract(ONE);
+        key(Keys.rsaText(Keys.letters(all), "Aw", Keys.letters(BigInteger.valueOf(171)), ""), 0);
+        for (int place = 1; place < 64; place++) {
+            BigInteger n = all.subtract(ONE.shiftLeft(8 * place - 1));
+            Check.that("it is 2 and more", TWO.modPow(BigInteger.valueOf(513), n).equals(TWO.add(ONE.shiftLeft(8 * place))));
+            key(Keys.rsaText(Keys.letters(n), "Aw", Keys.letters(BigInteger.valueOf(171)), ""), -16);
+        }
     }
 
     private static void curves() {

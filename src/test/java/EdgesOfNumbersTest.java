@@ -156,8 +156,7 @@ public final class EdgesOfNumbersTest {
         Check.promise(25, "x and y are below the field's number");
         // x = 5 and y = 5 are coordinates of points
         BigInteger five = BigInteger.valueOf(5);
-        BigInteger square = five.pow(3).subtract(five.multiply(BigInteger.valueOf(3))).add(NumberTest.B).mod(P);
-        BigInteger root = square.modPow(P.add(ONE).shiftRight(2), P);
+        BigInteger root = NumberTest.root(five);
         BigInteger low = new BigInteger("d7325d7646cd60d80a92738ceb345f844cffaf35841022cab176f692de8de1d7", 16);
         multiply(TWO, new BigInteger[] {five, root});
         multiply(TWO, new BigInteger[] {five, P.subtract(root)});
@@ -165,7 +164,15 @@ public final class EdgesOfNumbersTest {
         multiply(TWO, new BigInteger[] {low, P.subtract(five)});
         notOnCurve("x and the field's number", five.add(P), root);
         notOnCurve("y and the field's number", low, five.add(P));
-        notOnCurve("the field's number itself", P, root);
+        // so is x = 0, which the field's number itself is not
+        BigInteger ofZero = NumberTest.root(BigInteger.ZERO);
+        multiply(TWO, new BigInteger[] {BigInteger.ZERO, ofZero});
+        notOnCurve("the field's number itself", P, ofZero);
+        BigInteger last = P.subtract(ONE);
+        while (NumberTest.root(last) == null) {
+            last = last.subtract(ONE);
+        }
+        multiply(TWO, new BigInteger[] {last, NumberTest.root(last)});
         Check.promise(25, "NONE: the curve's base; another number below 0 is BAD");
         House h = House.lived().put(1, NumberTest.fixed(ONE, 32));
         for (int r : new int[] {-2, 8, Integer.MIN_VALUE, Integer.MAX_VALUE}) {

@@ -187,6 +187,8 @@ public final class EdgesOfSealedTest {
                     Check.promise(33, "the fresh secret; the content key; the seed; the beginning");
                     String due = SealedTest.token(alg, way, alg < 4 ? head(alg, way) : HEADS[alg - 4][way], null, null, PAYLOAD);
                     for (int more : new int[] {0, 1, 100}) {
+                        h.put(3, House.join(new byte[] {3}, new byte[200]));
+                        Check.that("others before", h.x.encrypt(1, alg, way, 2, 3, -1, -1) > 0);
                         h.put(3, House.join(random, Keys.bytes(more, 1)));
                         Check.same("encrypt by " + alg + ", " + way, h.x.encrypt(1, alg, way, 2, 3, -1, -1), due.length());
                         Check.that("the token", h.outText().equals(due));
@@ -488,6 +490,11 @@ public final class EdgesOfSealedTest {
             "\"kty\":\"EC\",\"crv\":\"p-256\"", "\"kty\":\"EC\",\"crv\":256", "\"kty\":\"\",\"crv\":\"\""}) {
             head(agreed(",\"epk\":{" + bad + point + "}"), House.HEAD);
         }
+        Check.promise(34, "a head without epk, behind one that has it");
+        House h = House.lived();
+        decrypt(h, House.letters(agreed(",\"epk\":{\"kty\":\"EC\",\"crv\":\"P-256\"" + point + "}")) + "....", House.KEY);
+        decrypt(h, House.letters(agreed("")) + "....", House.HEAD);
+        decrypt(h, House.letters(agreed(",\"epk\":{\"kty\":\"EC\",\"crv\":\"P-256\",\"x\":\"\",\"y\":\"\"}")) + "....", House.HEAD);
         Check.promise(34, "what stands outside of epk is not in it");
         head(agreed(",\"kty\":\"EC\",\"crv\":\"P-256\"" + point + ",\"epk\":{}"), House.HEAD);
         Check.promise(34, "epk of another alg means nothing");

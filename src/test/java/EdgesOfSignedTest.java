@@ -37,6 +37,8 @@ public final class EdgesOfSignedTest {
         firstKey();
         wrongSignatures();
         wrongCurveSignatures();
+        curveSignaturesThatWrapAround();
+        keysThatAreTheBase();
         payloads();
         firstRefusalOfVerify();
         Check.end(31, 32);
@@ -179,6 +181,14 @@ public final class EdgesOfSignedTest {
         head("{\"alg\":\"HS256\",\"x\":" + "[".repeat(40) + "]".repeat(40) + "}", House.TEXT);
         head("{\"alg\":\"HS256\",\"x\":[" + "0,".repeat(596) + "0]}", 0);
         head("{\"alg\":\"HS256\",\"x\":[" + "0,".repeat(597) + "0]}", House.TEXT);
+        head("{\"alg\":\"HS256\",\"crit\":[\"b64\"],\"b64\":true,\"x\":[" + "0,".repeat(593) + "0]}", 0);
+        head("{\"alg\":\"HS256\",\"crit\":[\"b64\"],\"b64\":true,\"x\":[" + "0,".repeat(594) + "0]}", House.TEXT);
+        StringBuilder names = new StringBuilder();
+        for (int i = 0; i < 596; i++) {
+            names.append(",\"").append(i).append('"');
+        }
+        head("{\"alg\":\"HS256\",\"crit\":[\"b64\"" + names + "]}", House.NAMES);
+        head("{\"alg\":\"HS256\",\"crit\":[\"595\"" + names + "]}", House.HEAD);
         Check.promise(31, "HEAD: of an object");
         for (String text : new String[] {"[]", "null", "0", "\"HS256\"", "[{\"alg\":\"HS256\"}]"}) {
             head(text, House.HEAD);
@@ -599,6 +609,38 @@ public final class EdgesOfSignedTest {
         Check.promise(32, "WRONG: the sum of points is no point");
         BigInteger d = z.negate().multiply(r.modInverse(N)).mod(N);
         verify(ready(Keys.ec(d, false, ""), new byte[0]), input + "." + House.letters(right), House.WRONG);
+    }
+
+    /** The key of which a signature is right, whose point has an x beyond the order: r is that, less the order. */
+    private static void curveSignaturesThatWrapAround() throws Exception {
+        Check.promise(32, "r is the point's x modulo the order");
+        String input = House.letters("{\"alg\":\"ES256\"}") + "." + House.letters("p");
+        BigInteger z = new BigInteger(1, Maker.hash(House.bytes(input)));
+        BigInteger r = ONE;
+        while (NumberTest.root(N.add(r)) == null) {
+            r = r.add(ONE);
+        }
+        BigInteger[] point = {N.add(r), NumberTest.root(N.add(r))};
+        BigInteger s = K;
+        BigInteger[] rest = NumberTest.times(N.subtract(z.multiply(s.modInverse(N)).mod(N)), NumberTest.G);
+        BigInteger[] key = NumberTest.times(s.multiply(r.modInverse(N)).mod(N), NumberTest.add(point, rest));
+        House h = ready(Keys.ecText(NumberTest.fixed(key[0], 32), NumberTest.fixed(key[1], 32), null, ""), new byte[0]);
+        verify(h, input + "." + House.letters(NumberTest.point(new BigInteger[] {r, s})), 1);
+        h.mark();
+        Check.promise(32, "WRONG: r is more by the order");
+        verify(h, input + "." + House.letters(NumberTest.point(new BigInteger[] {N.add(r), s})), House.WRONG);
+    }
+
+    /** The points that are added up are the same ones, or opposite ones, now and then. */
+    private static void keysThatAreTheBase() throws Exception {
+        Check.promise(32, "keys that are the curve's base, or opposite to it");
+        for (BigInteger d : new BigInteger[] {ONE, N.subtract(ONE)}) {
+            House h = ready(Keys.ec(d, false, ""), new byte[0]);
+            for (int k = 1; k <= 20; k++) {
+                String input = House.letters("{\"alg\":\"ES256\"}") + "." + House.letters("p" + k);
+                verify(h, input + "." + House.letters(Maker.signEc(d, K.add(BigInteger.valueOf(k)), House.bytes(input))), 1);
+            }
+        }
     }
 
     private static void payloads() throws Exception {

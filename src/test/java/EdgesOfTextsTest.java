@@ -114,6 +114,7 @@ public final class EdgesOfTextsTest {
         Check.promise(9, "bytes that follow are 80 .. BF, as many as must");
         faults("\"|\u0080\"", "\"|\u00bf\"", "\"\u00c2|\u007f\"", "\"\u00c2|\u00c0\"", "\"\u00c2|\"", "\"\u00e1|\u007f\"", "\"\u00e1|\u00c0\"", "\"\u00e1\u0080|\u007f\"", "\"\u00e1\u00bf|\u00c0\"", "\"\u00e1\u0080|\"");
         faults("\"\u00f1|\u007f\"", "\"\u00f1|\u00c0\"", "\"\u00f3\u0080|\u007f\"", "\"\u00f1\u0080|\u00c0\"", "\"\u00f1\u0080\u0080|\u007f\"", "\"\u00f1\u0080\u0080|\u00c0\"", "\"\u00f1\u0080\u0080|\"");
+        faults("[\"\u00c2|]", "[\"\u00c2|,1]", "[\"\u00e1\u0080| ]", "{\"a\":\"\u00f1|}", "[\"\\|]", "[\"\\u|]", "[\"\\ud800|]", "[\"\n]".replace("\n", "|\n"));
         right("\"\u00e1\u0080\u0080\u00ec\u00bf\u00bf\"", "\"\u00f1\u0080\u0080\u0080\u00f3\u00bf\u00bf\u00bf\"");
     }
 
@@ -136,6 +137,7 @@ public final class EdgesOfTextsTest {
         faults("\"\\ud800|\"", "\"\\udbff|a\"", "\"\\ud800|\u00c2\u0080\"", "\"\\ud800\\|n\"", "\"\\ud800\\|\\\"", "\"\\ud800\\u|0041\"", "\"\\ud800\\u|c\"", "\"\\ud800\\u|e000\"");
         faults("\"\\ud800\\ud|bff\"", "\"\\ud800\\ud|800\\udc00\"", "\"\\ud|c00\"", "\"\\ud|fff\"", "\"\\uD|C00\\uD800\"", "\"\\ud800\\udc00\\ud|c00\"", "{\"\\ud|c00\":1}", "{\"\\ud800|\":1}");
         Check.promise(9, "what a string says are UTF-8 bytes");
+        said("\"\\\"\\\\\\/\\b\\f\\n\\r\\t\"", '"', '\\', '/', 8, 12, 10, 13, 9);
         said("\"\\ud800\\udc00\"", 0xf0, 0x90, 0x80, 0x80);
         said("\"\\udbff\\udfff\"", 0xf4, 0x8f, 0xbf, 0xbf);
         said("\"\\u007f\\u0080\"", 0x7f, 0xc2, 0x80);
@@ -374,6 +376,8 @@ public final class EdgesOfTextsTest {
         Check.promise(14, "without blanks, members and elements in their order");
         written(" { \"b\" : [ 1 , [ ] , { } ] ,\t\"a\" : null\r\n} ", "{\"b\":[1,[],{}],\"a\":null}");
         written("[ ]", "[]");
+        written(" true ", "true");
+        written("[false, null]", "[false,null]");
         written("{ }", "{}");
         Check.promise(14, "numbers as they stood");
         written("[-0,0.00,1E+05,10e-0]", "[-0,0.00,1E+05,10e-0]");

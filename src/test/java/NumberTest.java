@@ -137,6 +137,13 @@ public final class NumberTest {
         return sum;
     }
 
+    /** A y of this x; null: there is none. */
+    static BigInteger root(BigInteger x) {
+        BigInteger square = x.pow(3).subtract(x.multiply(BigInteger.valueOf(3))).add(B).mod(P);
+        BigInteger root = square.modPow(P.add(BigInteger.ONE).shiftRight(2), P);
+        return root.multiply(root).mod(P).equals(square) ? root : null;
+    }
+
     static byte[] point(BigInteger[] p) {
         return House.join(fixed(p[0], 32), fixed(p[1], 32));
     }
@@ -206,14 +213,12 @@ public final class NumberTest {
             Check.same("multiply", h.x.multiply(0, 1), House.BAD);
             h.x.poke(1, i, 1);
         }
-        // x = 5 is on the curve, and x = 5 + p is 5 again, but no number of the field
+        // the first x on the curve, which is the same again with p more, but no number of the field then
         BigInteger x = BigInteger.ZERO;
         BigInteger y = null;
         for (int i = 0; i < 40 && y == null; i++) {
             x = BigInteger.valueOf(i);
-            BigInteger square = x.pow(3).subtract(x.multiply(BigInteger.valueOf(3))).add(B).mod(P);
-            BigInteger root = square.modPow(P.add(BigInteger.ONE).shiftRight(2), P);
-            y = root.multiply(root).mod(P).equals(square) ? root : null;
+            y = root(x);
         }
         multiple(h, BigInteger.valueOf(3), new BigInteger[] {x, y});
         multiple(h, BigInteger.valueOf(3), new BigInteger[] {x, P.subtract(y)});
