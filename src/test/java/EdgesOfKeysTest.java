@@ -212,6 +212,11 @@ public final class EdgesOfKeysTest {
         Check.promise(27, "2 to the power e d is 2 modulo n, in all bytes");
         BigInteger all = ONE.shiftLeft(512).subtract(ONE);
         key(Keys.rsaText(Keys.letters(all), "Aw", Keys.letters(BigInteger.valueOf(171)), ""), 0);
+        Check.promise(27, "a short d without 0s in front");
+        for (int zeros = 1; zeros < 64; zeros++) {
+            key(Keys.rsaText(Keys.letters(all), "Aw", House.letters(House.join(new byte[zeros], new byte[] {(byte) 171})), ""), -16);
+        }
+        Check.promise(27, "2 to the power e d is 2 modulo n, in all bytes");
         for (int place = 1; place < 64; place++) {
             BigInteger n = all.subtract(ONE.shiftLeft(8 * place - 1));
             Check.that("it is 2 and more", TWO.modPow(BigInteger.valueOf(513), n).equals(TWO.add(ONE.shiftLeft(8 * place))));

@@ -32,7 +32,7 @@ public final class EdgesOfNumbersTest {
 
     private static void powerOfEdges() {
         byte[] none = {};
-        byte[][] moduli = {{3}, {-1}, {1, 1}, {1, 0, 0, 0, 1}, filled(127, 255), filled(128, 255), House.join(new byte[] {1}, new byte[126], new byte[] {1})};
+        byte[][] moduli = {{3}, {7}, {-1}, {-5}, {1, 1}, {5, 17, 91}, {1, 0, 0, 0, 1}, {9, 8, 7, 6, 5}, filled(127, 255), filled(128, 255), House.join(new byte[] {1}, new byte[126], new byte[] {1})};
         for (byte[] m : moduli) {
             BigInteger modulus = new BigInteger(1, m);
             Check.promise(24, "a row without bytes is 0");
@@ -56,6 +56,7 @@ public final class EdgesOfNumbersTest {
             }
             Check.promise(24, "128 bytes of base and exponent, and 0s in front of them");
             power(filled(128, 255), filled(128, 255), m);
+            power(Keys.bytes(128, 24), Keys.bytes(128, 25), m);
             power(House.join(new byte[127], new byte[] {7}), House.join(new byte[127], new byte[] {3}), m);
         }
     }

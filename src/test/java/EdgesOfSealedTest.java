@@ -31,6 +31,7 @@ public final class EdgesOfSealedTest {
         parties();
         kids();
         firstKey();
+        keysOfAKind();
         sealedKeys();
         contentKeys();
         beginningsAndMarks();
@@ -598,6 +599,24 @@ public final class EdgesOfSealedTest {
         h.mark();
         Check.promise(34, "WRONG: with none of these it is right");
         decrypt(h, token, House.WRONG);
+    }
+
+    private static void keysOfAKind() {
+        Check.promise(34, "the first one that is right among keys of its kind");
+        for (int alg = 1; alg < 6; alg++) {
+            House h = ready(alg, 3);
+            h.put(1, alg == 3 ? Keys.rsa(1024, 3, 34).text(true, "") : alg > 3 ? Keys.ec(N.subtract(BigInteger.TWO), true, "") : Keys.oct(new byte[16 * alg], ""));
+            Check.same("key", h.x.key(1), 2);
+            for (int key = 1; key <= 2; key++) {
+                h.x.encrypt(key, alg, 3, 2, 3, -1, -1);
+                h.x.keep(4 + key);
+                h.x.poke(3, 5, 7);
+            }
+            for (int key : new int[] {1, 2, 1}) {
+                Check.same("decrypt by " + alg, h.x.decrypt(4 + key), key);
+                Check.same("the payload is OUT", h.out(), PAYLOAD);
+            }
+        }
     }
 
     private static String replaced(String token, int part, byte[] bytes) {

@@ -301,6 +301,15 @@ public final class EdgesOfSignedTest {
             Check.that("the payload", h.outText().equals(payload));
             Check.promise(31, "POINT: the payload stands as it is, and has a point");
         }
+        Check.promise(31, "a payload that does not stand as it is, behind one that does");
+        for (String before : new String[] {"ab", "a.b"}) {
+            House h = ready(TEXTS[0], House.bytes(before)).put(3, AS_IT_IS).put(5, "a.b");
+            h.x.sign(1, 0, 3, 2, -1);
+            Check.same("sign", h.x.sign(1, 0, -1, 5, -1), 20 + 1 + 4 + 1 + 43);
+            h.x.keep(6);
+            Check.same("verify", h.x.verify(6), 1);
+            Check.that("the payload", h.outText().equals("a.b"));
+        }
         Check.promise(31, "the payload stands in the token as it is, and is signed so");
         for (String payload : new String[] {"", "-", "/", "A", "=", "\0\u00ff\n"}) {
             House h = ready(TEXTS[0], House.bytes(payload)).put(3, AS_IT_IS);
@@ -541,6 +550,17 @@ public final class EdgesOfSignedTest {
         h.put(1, TEXTS[0]);
         h.x.key(1);
         verify(h, token, 0);
+        Check.promise(32, "the first one that is right among keys of its kind");
+        for (int alg = 2; alg < 5; alg++) {
+            House many = ready(alg);
+            many.put(1, alg == 4 ? Keys.ec(K, true, "") : Keys.rsa(1024, 3, 32).text(true, ""));
+            Check.same("key", many.x.key(1), 2);
+            for (int key : new int[] {1, 2, 1}) {
+                many.x.sign(key, alg, -1, 2, 4);
+                many.x.keep(5);
+                Check.same("verify by " + alg, many.x.verify(5), key);
+            }
+        }
         Check.promise(32, "one that has not the head's kid does not count");
         h.put(1, Keys.oct(OCT, ",\"kid\":\"a\""));
         Check.same("key", h.x.key(1), 3);

@@ -179,6 +179,14 @@ public final class EdgesOfTextsTest {
         json("[" + ("[".repeat(39) + "]".repeat(39) + ",").repeat(3) + "[".repeat(39) + "]".repeat(40), 157);
         json("[" + ("[".repeat(39) + "]".repeat(39) + ",").repeat(3) + "[".repeat(40), -100 - 1 - 79 * 3 - 39);
         json("[" + "[],".repeat(100) + "{}]", 102);
+        Check.promise(9, "brackets of a text before are not open");
+        House h = House.lived().put(1, "[[{\"a\":[").put(2, "[".repeat(40) + "]".repeat(40)).put(3, "[".repeat(41));
+        for (int turn = 0; turn < 3; turn++) {
+            Check.same("json of open ones", h.x.json(1), -108);
+            Check.same("json of 40", h.x.json(2), 40);
+            Check.same("json of 41", h.x.json(3), -140);
+            Check.same("json of 40", h.x.json(2), 40);
+        }
         Check.promise(9, "brackets in strings are none");
         json("[\"" + "[{".repeat(60) + "\"]", 2);
     }
@@ -379,6 +387,14 @@ public final class EdgesOfTextsTest {
         written(" true ", "true");
         written("[false, null]", "[false,null]");
         written("{ }", "{}");
+        Check.promise(14, "a value inside of others is written alone");
+        House inner = new House().put(0, "[ 1 , [ 2 , { \"a\" : [ 3 ] } ] , { } , \"x\" ]");
+        inner.x.json(0);
+        String[] values = {"[1,[2,{\"a\":[3]}],{},\"x\"]", "1", "[2,{\"a\":[3]}]", "2", "{\"a\":[3]}", "[3]", "3", "{}", "\"x\""};
+        for (int i = 0; i < values.length; i++) {
+            Check.same("write of " + i, inner.x.write(i), values[i].length());
+            Check.that("written is " + inner.outText(), inner.outText().equals(values[i]));
+        }
         Check.promise(14, "numbers as they stood");
         written("[-0,0.00,1E+05,10e-0]", "[-0,0.00,1E+05,10e-0]");
         Check.promise(14, "strings with \\\" \\\\ \\b \\f \\n \\r \\t");
