@@ -129,6 +129,9 @@ public final class EdgesOfNumbersTest {
             for (BigInteger number : new BigInteger[] {ONE, TWO, BigInteger.valueOf(3), N.subtract(TWO), N.subtract(ONE), N.add(ONE), N.add(TWO)}) {
                 multiply(number, point);
             }
+            Check.promise(25, "x and y that begin with 0s have 32 bytes");
+            multiply(NumberTest.leadingZero(point, 0), point);
+            multiply(NumberTest.leadingZero(point, 1), point);
             Check.promise(25, "a number of 32 bytes, the highest ones too");
             for (BigInteger number : new BigInteger[] {all.subtract(ONE), all.subtract(TWO), all.shiftRight(1), all.shiftRight(1).subtract(ONE), P, N.shiftRight(1), N.shiftRight(1).add(ONE)}) {
                 multiply(number, point);

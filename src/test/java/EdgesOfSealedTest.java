@@ -16,6 +16,7 @@ public final class EdgesOfSealedTest {
         numbersOfBytes();
         randomBytes();
         freshSecrets();
+        numbersThatBeginWith0();
         madeHeads();
         large();
         firstRefusalOfEncrypt();
@@ -230,6 +231,36 @@ public final class EdgesOfSealedTest {
                 Check.same("decrypt", h.x.decrypt(5), 1);
             }
         }
+    }
+
+    private static void numbersThatBeginWith0() throws Exception {
+        BigInteger[] point = NumberTest.times(SealedTest.D, NumberTest.G);
+        BigInteger[] secrets = {NumberTest.leadingZero(point, 0), NumberTest.leadingZero(NumberTest.G, 0), NumberTest.leadingZero(NumberTest.G, 1)};
+        Check.promise(33, "a shared secret, and x, y of a fresh point, that begin with 0 have 32 bytes");
+        for (BigInteger fresh : secrets) {
+            BigInteger[] p = NumberTest.times(fresh, NumberTest.G);
+            String head = HEADS[0][2].replace(x(FRESH_POINT[0]), x(p[0])).replace(x(FRESH_POINT[1]), x(p[1]));
+            byte[] key = DigestTest.derive(Maker.shared(fresh, point), House.bytes("A128GCM"), NONE, NONE, 16);
+            String due = Maker.token(head, NONE, new byte[12], 2, key, PAYLOAD);
+            House h = ready(text(4, 2, ""), PAYLOAD, House.join(NumberTest.fixed(fresh, 32), new byte[12]));
+            Check.same("encrypt", h.x.encrypt(1, 4, 2, 2, 3, -1, -1), due.length());
+            Check.that("the token", h.outText().equals(due));
+            decrypt(h, due, 1);
+        }
+        Check.promise(33, "a sealed key of RSA that begins with 0 has as many bytes as n");
+        byte[] sealed = {1};
+        byte[] seed = {};
+        for (int turn = 0; sealed[0] != 0; turn++) {
+            seed = Keys.bytes(32, turn);
+            sealed = Maker.oaep(SealedTest.RSA, new byte[16], seed);
+        }
+        String due = Maker.token(head(3, 2), sealed, new byte[12], 2, new byte[16], PAYLOAD);
+        House h = ready(text(3, 2, ""), PAYLOAD, House.join(new byte[16], seed, new byte[12]));
+        Check.same("encrypt", h.x.encrypt(1, 3, 2, 2, 3, -1, -1), due.length());
+        Check.that("the token", h.outText().equals(due));
+        decrypt(h, due, 1);
+        h.mark();
+        decrypt(h, replaced(due, 1, Arrays.copyOfRange(sealed, 1, 128)), House.WRONG);
     }
 
     private static void madeHeads() throws Exception {

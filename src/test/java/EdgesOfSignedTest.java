@@ -28,6 +28,7 @@ public final class EdgesOfSignedTest {
         points();
         salts();
         curveNumbers();
+        signaturesThatBeginWith0();
         large();
         firstRefusalOfSign();
         verifyRows();
@@ -36,6 +37,7 @@ public final class EdgesOfSignedTest {
         kids();
         firstKey();
         wrongSignatures();
+        wrongFrames();
         wrongCurveSignatures();
         curveSignaturesThatWrapAround();
         keysThatAreTheBase();
@@ -378,6 +380,33 @@ public final class EdgesOfSignedTest {
         }
     }
 
+    private static void signaturesThatBeginWith0() throws Exception {
+        Check.promise(31, "r that begins with 0 has 32 bytes");
+        BigInteger k = NumberTest.leadingZero(NumberTest.G, 0);
+        String input = House.letters("{\"alg\":\"ES256\"}") + "." + House.letters("p");
+        House h = ready(4).put(4, NumberTest.fixed(k, 32));
+        String due = input + "." + House.letters(Maker.signEc(D, k, House.bytes(input)));
+        Check.same("sign", h.x.sign(1, 4, -1, 2, 4), due.length());
+        Check.that("the token", h.outText().equals(due));
+        h.x.keep(5);
+        Check.same("verify", h.x.verify(5), 1);
+        Check.promise(31, "a signature of RSA that begins with 0 has as many bytes as n");
+        byte[] signature = {1};
+        String payload = "";
+        while (signature[0] != 0) {
+            payload += "p";
+            input = House.letters("{\"alg\":\"RS256\"}") + "." + House.letters(payload);
+            signature = Maker.signRsa(2, RSA, null, House.bytes(input));
+        }
+        h = ready(RSA.text(true, ""), House.bytes(payload));
+        Check.same("sign", h.x.sign(1, 2, -1, 2, -1), input.length() + 1 + letters(128));
+        Check.that("the token", h.outText().equals(input + "." + House.letters(signature)));
+        h.x.keep(5);
+        Check.same("verify", h.x.verify(5), 1);
+        h.mark();
+        verify(h, input + "." + House.letters(Arrays.copyOfRange(signature, 1, 128)), House.WRONG);
+    }
+
     private static int letters(int bytes) {
         return House.letters(new byte[bytes]).length();
     }
@@ -600,6 +629,38 @@ public final class EdgesOfSignedTest {
             h.mark();
             verify(h, input + House.letters(NumberTest.fixed(s.add(low.n), 128)), House.WRONG);
             verify(h, input + House.letters(NumberTest.fixed(low.n, 128)), House.WRONG);
+        }
+    }
+
+    /** The number that PS256 signs (RFC 8017, 9.1.1) for a modulus of so many bits. */
+    private static BigInteger frame(int bits, String input, byte[] salt) throws Exception {
+        int many = (bits - 1 + 7) / 8;
+        byte[] hash = Maker.hash(House.join(new byte[8], Maker.hash(House.bytes(input)), salt));
+        byte[] db = House.join(new byte[many - 66], new byte[] {1}, salt);
+        byte[] mask = Maker.mask(hash, db.length);
+        for (int i = 0; i < db.length; i++) {
+            db[i] ^= mask[i];
+        }
+        db[0] &= (byte) (255 >> 8 * many - (bits - 1));
+        return new BigInteger(1, House.join(db, hash, new byte[] {(byte) 0xbc}));
+    }
+
+    /** A salt is looked for with which the frame is still below n when a bit is set in front of it. */
+    private static void wrongFrames() throws Exception {
+        String input = House.letters("{\"alg\":\"PS256\"}") + "." + House.letters("p");
+        for (int bits = 1017; bits <= 1024; bits++) {
+            Keys k = Keys.rsa(bits, 65537, 600 + bits);
+            int seed = 0;
+            while (frame(bits, input, Keys.bytes(32, seed)).setBit(bits - 1).compareTo(k.n) >= 0) {
+                seed++;
+            }
+            BigInteger right = frame(bits, input, Keys.bytes(32, seed));
+            House h = ready(k.text(false, ""), new byte[0]);
+            Check.promise(32, "the bits in front of a frame of PS256 are 0");
+            verify(h, input + "." + House.letters(NumberTest.fixed(right.modPow(k.d, k.n), 128)), 1);
+            h.mark();
+            Check.promise(32, "WRONG: they are not");
+            verify(h, input + "." + House.letters(NumberTest.fixed(right.setBit(bits - 1).modPow(k.d, k.n), 128)), House.WRONG);
         }
     }
 

@@ -144,6 +144,15 @@ public final class NumberTest {
         return root.multiply(root).mod(P).equals(square) ? root : null;
     }
 
+    /** The least number that makes of a point one whose x (0) or y (1) begins with a byte 0. */
+    static BigInteger leadingZero(BigInteger[] p, int coordinate) {
+        BigInteger number = BigInteger.ONE;
+        for (BigInteger[] sum = p; sum[coordinate].bitLength() > 248; sum = add(sum, p)) {
+            number = number.add(BigInteger.ONE);
+        }
+        return number;
+    }
+
     static byte[] point(BigInteger[] p) {
         return House.join(fixed(p[0], 32), fixed(p[1], 32));
     }
