@@ -20,6 +20,7 @@ public final class EdgesOfCiphersTest {
         open();
         openFilled();
         openRefused();
+        oneRowForAll();
         Check.end(17, 23);
     }
 
@@ -383,6 +384,22 @@ public final class EdgesOfCiphersTest {
                 Check.same("open of " + many, h.x.open(way, 1, 2, 3, 4), many);
                 Check.same("OUT", h.out(), plain);
             }
+        }
+    }
+
+    private static void oneRowForAll() throws Exception {
+        for (int many : new int[] {16, 32}) {
+            byte[] bytes = Keys.bytes(many, 40);
+            House h = new House().put(1, bytes).put(2, new byte[12]);
+            Check.promise(18, "one row as key and as what the code is of");
+            Check.same("code", h.x.code(512, 1, 1), 64);
+            Check.same("OUT", h.out(), Maker.code(1, bytes, bytes));
+            Check.promise(20, "one row as key and as what is wrapped");
+            Check.same("wrap", h.x.wrap(1, 1), many + 8);
+            Check.same("OUT", h.out(), Maker.wrap(bytes, bytes));
+            Check.promise(22, "one row as key, as content, and as what else the mark is of");
+            Check.same("seal", h.x.seal(many == 16 ? 2 : 3, 1, 2, 1, 1), many + 16);
+            Check.same("OUT", h.out(), CipherTest.seal(2, bytes, new byte[12], bytes, bytes));
         }
     }
 

@@ -14,6 +14,7 @@ public final class EdgesOfNumbersTest {
         multiplyPoints();
         multiplySizes();
         derive();
+        oneRowForAll();
         Check.end(24, 26);
     }
 
@@ -204,6 +205,17 @@ public final class EdgesOfNumbersTest {
             Check.refused(h, "number " + r, () -> h.x.multiply(r, 2), House.BAD);
             Check.refused(h, "number " + r, () -> h.x.multiply(r, House.NONE), House.BAD);
         }
+    }
+
+    private static void oneRowForAll() throws Exception {
+        byte[] bytes = {7, 5, 3};
+        House h = new House().put(1, bytes);
+        Check.promise(24, "one row as base, exponent and modulus");
+        Check.same("power", h.x.power(1, 1, 1), 3);
+        Check.same("OUT", h.out(), new byte[3]);
+        Check.promise(26, "one row as secret, name, u and v");
+        Check.same("derive", h.x.derive(1, 1, 1, 1, 64), 64);
+        Check.same("OUT", h.out(), DigestTest.derive(bytes, bytes, bytes, bytes, 64));
     }
 
     private static void derive() throws Exception {

@@ -18,6 +18,7 @@ public final class EdgesOfSealedTest {
         freshSecrets();
         numbersThatBeginWith0();
         madeHeads();
+        oneRowForAll();
         large();
         firstRefusalOfEncrypt();
         decryptRows();
@@ -286,6 +287,17 @@ public final class EdgesOfSealedTest {
                     Check.that("the token", h.outText().equals(due));
                 }
             }
+        }
+    }
+
+    private static void oneRowForAll() throws Exception {
+        Check.promise(33, "one row as payload, random, u and v");
+        for (int alg = 4; alg < 6; alg++) {
+            byte[] all = SealedTest.random(alg, 2);
+            House h = ready(text(alg, 2, ""), PAYLOAD, all);
+            String due = SealedTest.token(alg, 2, SealedTest.head(alg, 2, "", all, all), all, all, all);
+            Check.same("encrypt", h.x.encrypt(1, alg, 2, 3, 3, 3, 3), due.length());
+            Check.that("the token", h.outText().equals(due));
         }
     }
 

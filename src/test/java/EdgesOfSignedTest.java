@@ -272,6 +272,10 @@ public final class EdgesOfSignedTest {
         House h = ready(0).put(3, head);
         h.x.sign(1, 0, 3, 2, -1);
         Check.that("its letters", h.outText().startsWith(House.letters(head) + "." + House.letters("p") + "."));
+        Check.promise(31, "one row as head and as payload");
+        h.x.sign(1, 0, 3, 3, -1);
+        String input = House.letters(head) + "." + House.letters(head);
+        Check.that("the token", h.outText().equals(input + "." + House.letters(Maker.code(0, OCT, House.bytes(input)))));
     }
 
     private static void anotherAlg() {
