@@ -65,7 +65,7 @@ final class SecondHouse {
             case "text" -> text(a[0]);
             case "name" -> name(a[0]);
             case "member" -> member(a[0], a[1]);
-            case "write" -> show(hand.write(known(a[0])));
+            case "write" -> write(a[0]);
             case "encode" -> show(House.bytes(House.letters(bytes(a[0]))));
             case "decode" -> decode(a[0]);
             case "hash" -> hash(a[0], a[1]);
@@ -107,14 +107,14 @@ final class SecondHouse {
         return r == House.NONE ? null : bytes(r);
     }
 
-    private Key known(int key, String ignored) {
+    private Key keyAt(int key) {
         need(key >= 0 && key <= 15 && keys[key] != null, House.BAD);
         return keys[key];
     }
 
-    private int known(int value) {
-        need(hand != null && value >= 0 && value < hand.values.size(), House.BAD);
-        return value;
+    private PlainJson.Value valueAt(int i) {
+        need(hand != null && i >= 0 && i < hand.values.size(), House.BAD);
+        return hand.values.get(i);
     }
 
     private int show(byte[] bytes) {
@@ -180,33 +180,38 @@ final class SecondHouse {
     }
 
     private int value(int i, int what) {
-        PlainJson.Value v = hand == null ? null : hand.values.get(known(i));
-        need(v != null && what >= 0 && what <= 4, House.BAD);
+        PlainJson.Value v = valueAt(i);
+        need(what >= 0 && what <= 4, House.BAD);
         int many = v.kind >= 5 ? v.inside.size() : v.said.length;
         return new int[] {v.kind, many, v.parent, v.place, v.start}[what];
     }
 
     private int text(int i) {
-        PlainJson.Value v = hand == null ? null : hand.values.get(known(i));
-        need(v != null && (v.kind == 3 || v.kind == 4), House.BAD);
+        PlainJson.Value v = valueAt(i);
+        need(v.kind == 3 || v.kind == 4, House.BAD);
         return show(v.said);
     }
 
     private int name(int i) {
-        PlainJson.Value v = hand == null ? null : hand.values.get(known(i));
-        need(v != null && v.name != null, House.BAD);
+        PlainJson.Value v = valueAt(i);
+        need(v.name != null, House.BAD);
         return show(v.name);
     }
 
     private int member(int i, int r) {
         byte[] wanted = bytes(r);
-        need(hand != null && hand.values.get(known(i)).kind == 6, House.BAD);
-        for (int m : hand.values.get(i).inside) {
+        need(valueAt(i).kind == 6, House.BAD);
+        for (int m : valueAt(i).inside) {
             if (Arrays.equals(hand.values.get(m).name, wanted)) {
                 return m;
             }
         }
         return House.NONE;
+    }
+
+    private int write(int i) {
+        valueAt(i);
+        return show(hand.write(i));
     }
 
     /** -1: they are letters for bytes. */
@@ -471,13 +476,13 @@ final class SecondHouse {
     }
 
     private int drop(int key) {
-        known(key, "");
+        keyAt(key);
         keys[key] = null;
         return 1;
     }
 
     private int told(int key, int what) {
-        Key k = known(key, "");
+        Key k = keyAt(key);
         need(what >= 0 && what <= 5, House.BAD);
         int use = k.use == null ? 0 : k.use.equals("sig") ? 1 : k.use.equals("enc") ? 2 : 3;
         int kty = k.k != null ? 0 : k.n != null ? 1 : 2;
@@ -485,7 +490,7 @@ final class SecondHouse {
     }
 
     private int print(int key) throws Exception {
-        Key k = known(key, "");
+        Key k = keyAt(key);
         String members = k.k != null ? "'k':'" + House.letters(k.k) + "','kty':'oct'"
             : k.n != null ? "'e':'" + Keys.letters(k.e) + "','kty':'RSA','n':'" + Keys.letters(k.n) + "'"
             : "'crv':'P-256','kty':'EC'," + xAndY(k.point);
@@ -649,7 +654,7 @@ final class SecondHouse {
     }
 
     private int sign(int key, int alg, int head, int payload, int random) throws Exception {
-        Key k = known(key, "");
+        Key k = keyAt(key);
         need(alg >= 0 && alg <= 4, House.BAD);
         byte[] text = bytesOrNull(head);
         byte[] content = bytes(payload);
@@ -773,7 +778,7 @@ final class SecondHouse {
     }
 
     private int encrypt(int[] a) throws Exception {
-        Key k = known(a[0], "");
+        Key k = keyAt(a[0]);
         int alg = a[1];
         int enc = a[2];
         need(alg >= 0 && alg <= 5 && enc >= 0 && enc <= 3, House.BAD);

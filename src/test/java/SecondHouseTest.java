@@ -525,7 +525,7 @@ public final class SecondHouseTest {
         byte[] message = SecondHouse.signedPart(head, payload, asItIs);
         boolean able = alg <= 1 || (k.d() != null && (alg != 3 || k.bytes() >= 67));
         byte[] signature = able ? SecondHouse.signature(k, alg, message, House.join(new byte[] {1}, bytes(31))) : bytes(pick(0, 32, 64));
-        if (k.n() != null && seldom(6)) {
+        if (k.n() != null && k.n().bitLength() % 8 == 1 && seldom(3)) {
             signature = NumberTest.fixed(new BigInteger(1, signature).add(k.n()), k.bytes());
         }
         if (seldom(8)) {
